@@ -182,13 +182,19 @@ public final class DialDesk {
 
     public long numberOf(int l, int day) {
         Line line = lines.lineWith(l);
-        Entry block = line == null || !isDay(day) ? null : line.blockOn(day);
+        if (line == null || !isDay(day)) {
+            return NONE;
+        }
+        Entry block = line.blockOn(day);
         return block == null ? NONE : block.numberWith(line.figures);
     }
 
     public int lineAt(int l, int day, int what) {
         Line line = lines.lineWith(l);
-        Entry block = line == null || !isDay(day) ? null : line.blockOn(day);
+        if (line == null || !isDay(day)) {
+            return NONE;
+        }
+        Entry block = line.blockOn(day);
         if (block == null) {
             return NONE;
         }
@@ -223,8 +229,8 @@ public final class DialDesk {
         if (!call.isOpen()) {
             return NONE;
         }
-        call.take1(figure);
-        call.answer = plan.answerTo(call.figures, call.places, call.day);
+        call.hear(figure);
+        call.answer = plan.read(call.figures, call.places, call.day).answer();
         call.over = call.answer == DONE || call.answer == WRONG;
         return call.answer;
     }
@@ -261,11 +267,9 @@ public final class DialDesk {
             case 7:
                 return tellOfLead(call, what);
             case 8:
-                return call.over ? 0 : plan.figuresBehind(call.figures, call.places, call.day);
             case 9:
-                return call.over ? NONE : plan.leastBehind(call.figures, call.places, call.day);
             case 10:
-                return call.over ? NONE : plan.mostBehind(call.figures, call.places, call.day);
+                return tellOfRest(call, what);
             default:
                 return NONE;
         }
@@ -276,7 +280,8 @@ public final class DialDesk {
         if (!isWithin(places, 1, FOREIGN_LENGTH) || !isDay(day)) {
             return RANGE;
         }
-        return lines.findBy(plan.leadOf(number, places, day), number, places, day);
+        Entry lead = plan.leadOf(number, places, day);
+        return lead == null ? NONE : lines.findBy(lead, number, places, day);
     }
 
     // ---- shortage
@@ -380,6 +385,17 @@ public final class DialDesk {
         return what == 5 || line == null ? l : line.carrierOn(call.day);
     }
 
+    private int tellOfRest(Call call, int what) {
+        if (call.over) {
+            return what == 8 ? 0 : NONE;
+        }
+        Reading reading = plan.read(call.figures, call.places, call.day);
+        if (what == 8) {
+            return reading.next;
+        }
+        return what == 9 ? reading.leastMore : reading.mostMore;
+    }
+
     private static boolean isDay(int day) {
         return isWithin(day, 0, LAST_DAY);
     }
@@ -443,6 +459,8 @@ public final class DialDesk {
         final int least;
         final int most;
         final int first;
+        /** Which figures can stand at the places of the prefix and at the one behind it; at later ones all can. */
+        final int[] fixed;
         int id;
         int end;
         int from;
@@ -463,6 +481,13 @@ public final class DialDesk {
             this.least = least;
             this.most = most;
             this.first = first;
+            this.fixed = new int[PREFIX_FIGURES + 1];
+            for (int place = 0; place < fixed.length; place++) {
+                fixed[place] = place < places ? figureBit(prefix, places, place) : ALL_FIGURES;
+            }
+            if (set != 0 && places >= 0 && places < fixed.length) {
+                fixed[places] = set;
+            }
             this.id = NONE;
             this.end = NONE;
             this.from = NONE;
@@ -509,10 +534,7 @@ public final class DialDesk {
 
         /** Which figures can stand at a place of its NUMBERS. */
         int figuresAt(int place) {
-            if (place < places) {
-                return figureBit(prefix, places, place);
-            }
-            return place == places && set != 0 ? set : ALL_FIGURES;
+            return place >= 0 && place < fixed.length ? fixed[place] : ALL_FIGURES;
         }
 
         /** Whether the figures begin one of its NUMBERS, or are one. */
@@ -547,8 +569,7 @@ public final class DialDesk {
          */
         boolean clashesWith(Entry other) {
             int shared = Math.min(least, other.least);
-            int fixed = Math.min(shared, Math.max(places, other.places) + 1);
-            for (int place = 0; place < fixed; place++) {
+            for (int place = 0; place < shared && place < fixed.length; place++) {
                 if ((figuresAt(place) & other.figuresAt(place)) == 0) {
                     return false;
                 }
@@ -569,25 +590,26 @@ public final class DialDesk {
             return (bits >> (other & 63) & 1L) != 0;
         }
 
-        /** The BLOCK that has a LINE's figures when this one has ended; null if it ended otherwise. */
-        Entry nextFor(long figures) {
-            if (moved == null || end != changeDay) {
-                return null;
-            }
-            boolean goes = (moved.set & figureBit(figures, placesBehind(), 0)) != 0;
-            return goes ? moved : rest;
-        }
-
-        /** Where a LINE that was on this BLOCK by these figures is on a day; null: it has no NUMBER. */
-        Entry followedTo(long figures, int day) {
+        /**
+         * Where a LINE that was on this BLOCK is on a day; null: it has no NUMBER. A change keeps what is
+         * behind the prefix, so the first of these figures (as a bit) tells each way.
+         */
+        Entry followedTo(int head, int day) {
             Entry block = this;
             for (int step = 0; step < MOST_ENTRIES && block != null; step++) {
                 if (block.end == NONE || day < block.end) {
                     return block;
                 }
-                block = block.nextFor(figures);
+                block = block.nextFor(head);
             }
             return null;
+        }
+
+        private Entry nextFor(int head) {
+            if (moved == null || end != changeDay) {
+                return null;
+            }
+            return (moved.set & head) != 0 ? moved : rest;
         }
 
         long roomOn(int day) {
@@ -602,10 +624,12 @@ public final class DialDesk {
         /** The entries in force on the day that is looked at, as the bits of clashes. */
         long lowInForce;
         long highInForce;
+        final Reading reading;
 
         Plan() {
             entries = new Entry[MOST_ENTRIES];
             size = 0;
+            reading = new Reading();
         }
 
         Entry entryAt(int e) {
@@ -766,54 +790,15 @@ public final class DialDesk {
             }
         }
 
-        int answerTo(long told, int count, int day) {
-            boolean whole = false;
-            boolean longer = false;
+        Reading read(long told, int count, int day) {
+            reading.clear();
             for (int e = 0; e < size; e++) {
                 Entry entry = entryAt(e);
                 if (entry != null && entry.isInForce(day) && entry.fits(told, count)) {
-                    whole = whole || count >= entry.least;
-                    longer = longer || count < entry.most;
+                    reading.add(entry, count);
                 }
             }
-            if (whole) {
-                return longer ? WAITS : DONE;
-            }
-            return longer ? MORE : WRONG;
-        }
-
-        int figuresBehind(long told, int count, int day) {
-            int bits = 0;
-            for (int e = 0; e < size; e++) {
-                Entry entry = entryAt(e);
-                if (entry != null && entry.isInForce(day) && count < entry.most && entry.fits(told, count)) {
-                    bits |= entry.figuresAt(count);
-                }
-            }
-            return bits;
-        }
-
-        int leastBehind(long told, int count, int day) {
-            int least = NONE;
-            for (int e = 0; e < size; e++) {
-                Entry entry = entryAt(e);
-                if (entry != null && entry.isInForce(day) && count < entry.most && entry.fits(told, count)) {
-                    int more = Math.max(1, entry.least - count);
-                    least = least == NONE ? more : Math.min(least, more);
-                }
-            }
-            return least;
-        }
-
-        int mostBehind(long told, int count, int day) {
-            int most = NONE;
-            for (int e = 0; e < size; e++) {
-                Entry entry = entryAt(e);
-                if (entry != null && entry.isInForce(day) && count < entry.most && entry.fits(told, count)) {
-                    most = Math.max(most, entry.most - count);
-                }
-            }
-            return most;
+            return reading;
         }
 
         long roomOf(int area, int day) {
@@ -855,6 +840,38 @@ public final class DialDesk {
         }
     }
 
+    /** What all entries that dialled figures fit say of them; one is kept and used for every reading. */
+    private static final class Reading {
+        boolean whole;
+        int next;
+        int leastMore;
+        int mostMore;
+
+        void clear() {
+            whole = false;
+            next = 0;
+            leastMore = NONE;
+            mostMore = NONE;
+        }
+
+        void add(Entry entry, int count) {
+            whole = whole || count >= entry.least;
+            if (count < entry.most) {
+                int more = Math.max(1, entry.least - count);
+                leastMore = leastMore == NONE ? more : Math.min(leastMore, more);
+                mostMore = Math.max(mostMore, entry.most - count);
+                next |= entry.figuresAt(count);
+            }
+        }
+
+        int answer() {
+            if (whole) {
+                return mostMore == NONE ? DONE : WAITS;
+            }
+            return mostMore == NONE ? WRONG : MORE;
+        }
+    }
+
     /** A carrier to which a LINE leads from a day on, and what was ahead of it. */
     private static final class Porting {
         final int carrier;
@@ -871,6 +888,7 @@ public final class DialDesk {
     private static final class Line {
         final Entry start;
         final int figures;
+        final int head;
         final int first;
         int end;
         Porting latest;
@@ -878,6 +896,7 @@ public final class DialDesk {
         Line(Entry start, int figures, int first) {
             this.start = start;
             this.figures = figures;
+            this.head = figureBit(figures, placesOf(figures), 0);
             this.first = first;
             this.end = NONE;
         }
@@ -887,7 +906,7 @@ public final class DialDesk {
             if (start == null || day < first || (end != NONE && day >= end)) {
                 return null;
             }
-            return start.followedTo(figures, day);
+            return start.followedTo(head, day);
         }
 
         int carrierOn(int day) {
@@ -949,13 +968,12 @@ public final class DialDesk {
 
         /** The LINE to which figures LEAD by the ENTRY of which they are a NUMBER. */
         int findBy(Entry entry, long told, int count, int day) {
-            if (entry == null || (entry.kind != BLOCK && entry.kind != PARKED)) {
+            Entry block = entry.kind == BLOCK ? entry : entry.standsFor;
+            if (block == null) {
                 return NONE;
             }
-            long figures = lastOf(told, count - entry.places);
-            Entry block = entry.kind == BLOCK ? entry : entry.standsFor;
-            Entry there = block == null ? null : block.followedTo(figures, day);
-            return there == null ? NONE : findOn(there, figures, day);
+            Entry there = block.followedTo(figureBit(told, count, entry.places), day);
+            return there == null ? NONE : findOn(there, lastOf(told, count - entry.places), day);
         }
 
         int numberedOn(int day) {
@@ -991,7 +1009,7 @@ public final class DialDesk {
             return begun && !over;
         }
 
-        void take1(int figure) {
+        void hear(int figure) {
             figures = figures * 10 + figure;
             places++;
         }
@@ -1125,7 +1143,7 @@ public final class DialDesk {
             lackCount = 0;
             int week = from;
             while (week <= last) {
-                int next = nextTurn(demand.area, week);
+                int next = nextTurnWithOptions(demand.area, week);
                 long lack = demand.askedIn(Math.min(last, next - 1)) - plan.roomOf(demand.area, WEEK * week);
                 if (lack > 0 && lackCount < lacks.length && lackCount < lackWeeks.length) {
                     lackWeeks[lackCount] = week;
@@ -1136,7 +1154,7 @@ public final class DialDesk {
             }
         }
 
-        private int nextTurn(int area, int week) {
+        private int nextTurnWithOptions(int area, int week) {
             int next = plan.nextTurn(area, week);
             for (int o = 0; o < size; o++) {
                 Option option = optionAt(o);
