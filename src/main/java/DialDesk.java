@@ -429,7 +429,10 @@ public final class DialDesk {
     }
 
     private static long withoutLast(long told, int places) {
-        long divisor = tens(places);
+        if (places <= 0 || places >= TENS.length) {
+            return told;
+        }
+        long divisor = TENS[places];
         return divisor > 0 ? told / divisor : told;
     }
 
@@ -564,12 +567,11 @@ public final class DialDesk {
         }
 
         /**
-         * Whether the two would make a PAIR. What they fix stands ahead of their least lengths, so the
-         * shortest NUMBER of both decides: a longer one only fixes more.
+         * Whether the two would make a PAIR. All that an entry fixes stands within its shortest NUMBERS, so
+         * lengths don't matter: where the shorter one has no figures it allows all of the longer one's.
          */
         boolean clashesWith(Entry other) {
-            int shared = Math.min(least, other.least);
-            for (int place = 0; place < shared && place < fixed.length; place++) {
+            for (int place = 0; place <= PREFIX_FIGURES; place++) {
                 if ((figuresAt(place) & other.figuresAt(place)) == 0) {
                     return false;
                 }

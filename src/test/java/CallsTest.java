@@ -271,5 +271,12 @@ public final class CallsTest {
         due("done", x.figure(2, 9), 1);
         due("figures", x.told(2, 0), 15);
         due("leads", x.told(2, 4), 0);
+        x.block(0, 11234567, 256, 12, 0);
+        x.call(3);
+        due("more", dial(x, 3, 1, 2, 3, 4, 5, 6, 7), 0);
+        due("of the set", x.told(3, 8), 256);
+        due("more", dial(x, 3, 8, 0, 0, 0), 0);
+        due("any", x.told(3, 8), 1023);
+        due("done", dial(x, 3, 9), 1);
     }
 }

@@ -365,6 +365,12 @@ public final class PlanTest {
         pairOf("shorter block begins", b(11, 4, 3), b(112, 1, 9), 1);
         pairOf("two behind the prefix", b(11, 4, 3), b(11234567, 1, 9), 1);
         pairOf("longer with shorter prefix", b(11, 4, 9), b(11234567, 1, 8), 1);
+        pairOf("seven figures, sets apart", b(11234567, 4, 9), b(11234567, 8, 12), 0);
+        pairOf("seven figures, sets that share", b(11234567, 4, 9), b(11234567, 12, 12), 1);
+        pairOf("seven figures, the last apart", s(11234567), s(11234568), 0);
+        pairOf("seven figures, the first apart", s(11234567), s(12234567), 0);
+        pairOf("seven figures and a set", s(11234567), b(1123456, 64, 8), 0);
+        pairOf("seven figures in a set", s(11234567), b(1123456, 128, 8), 1);
         pairOf("foreign and block", f(11, 2, 3), b(11, 4, 5), 1);
         pairOf("foreign longer", f(11, 6, 8), b(11, 4, 5), 1);
         pairOf("foreign apart", f(12, 6, 8), b(11, 4, 5), 0);

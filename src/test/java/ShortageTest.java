@@ -11,6 +11,7 @@ public final class ShortageTest {
         optionsThatCannotBe();
         reliefs();
         reliefByDays();
+        reliefOfStretches();
         reliefWithoutPairs();
         reliefWithRoom();
         reliefsThatCannotBe();
@@ -186,6 +187,29 @@ public final class ShortageTest {
         x.now(49);
         due("its week goes by", x.relief(0, 1), DialDesk.NONE);
         due("shortage in the clock's week", x.shortage(0), 7);
+    }
+
+    private static void reliefOfStretches() {
+        DialDesk x = new DialDesk();
+        x.demand(0, 10, 10);
+        x.block(0, 12, 1023, 3, 7);
+        due("week 0", x.shortage(0), 0);
+        x.mightCome(0, 13, 1, 3, 0, 3);
+        due("ten for week 0, then a hundred and ten", x.relief(0, 11), 1);
+        due("not for week 11", x.relief(0, 12), DialDesk.NONE);
+        DialDesk y = new DialDesk();
+        y.demand(0, 10, 10);
+        y.mightCome(0, 13, 3, 3, 14, 3);
+        y.mightCome(0, 14, 3, 3, 0, 3);
+        due("the later one is no help alone", y.relief(0, 1), 2);
+        due("but behind the other", y.relief(0, 4), 3);
+        due("no longer", y.relief(0, 5), DialDesk.NONE);
+        y.demand(1, 5, 0);
+        y.mightCome(1, 15, 1, 3, 0, 1);
+        due("another area's lack is its own", y.relief(1, 2000), 4);
+        y.demand(0, 0, 0);
+        due("none is asked for", y.relief(0, 1), DialDesk.NONE);
+        due("the other one's still", y.relief(1, 1), 4);
     }
 
     private static void reliefWithoutPairs() {
