@@ -310,9 +310,14 @@ public final class CallsEdgesTest {
 
     private static void leadsNumber() {
         Edge edge = busy("21: leads' number");
-        long[] taken = {10, 19, 100, 199, 100000000000000L, 199999999999999L, 1000000000000000L, 1999999999999999L};
-        for (long number : taken) {
-            edge.taken("NONE of " + number, x -> x.leads(number, 10), NONE);
+        long least = 1;
+        for (int figures = 1; figures <= 15; figures++) {
+            least *= 10;
+            long first = least;
+            edge.taken("the least of " + figures, x -> x.leads(first, 10), NONE);
+            edge.taken("the most of " + figures, x -> x.leads(2 * first - 1, 10), NONE);
+            edge.taken("below the least of " + figures, x -> x.leads(first - 1, 10), RANGE);
+            edge.taken("above the most of " + figures, x -> x.leads(2 * first, 10), RANGE);
         }
         long[] refused = {Long.MIN_VALUE, MIN, -12345, -1, 0, 1, 2, 9, 20, 99, 22345, 2000000000000000L,
             9999999999999999L, 10000000000000000L, 19999999999999999L, 1000000000000000000L, 1999999999999999999L,

@@ -28,9 +28,11 @@ public final class LinesEdgesTest {
         numberOfNotYet();
         numberOfNotAnyMore();
         numberOfEndedBlock();
+        numberThroughAsManyChangesAsThereCanBe();
         lineAtNoSuch();
         lineAtDays();
         lineAtCarrier();
+        lineAtCarrierAheadOfAllPortings();
         DUE.end();
     }
 
@@ -320,6 +322,21 @@ public final class LinesEdgesTest {
         due("15: then none", ended.numberOf(0, 21), NONE);
     }
 
+    private static void numberThroughAsManyChangesAsThereCanBe() {
+        DialDesk x = new DialDesk();
+        x.block(2, 1000, 1, 5, 0);
+        x.line(0, 107);
+        for (int day = 1; day < 120; day++) {
+            due("15: split " + day, x.split(day - 1, 1, 1000 + day, 2, day, 0), day);
+        }
+        due("15: no more of them", x.split(119, 1, 1999, 2, 120, 0), FULL);
+        for (int day = 0; day < 120; day++) {
+            due("15: on day " + day, x.numberOf(0, day), (1000 + day) * 100 + 7);
+        }
+        due("15: from then on", x.numberOf(0, 20000), 111907);
+        due("15: led to", x.leads(111907, 20000), 0);
+    }
+
     // ---- promise 16
 
     private static void lineAtNoSuch() {
@@ -371,5 +388,17 @@ public final class LinesEdgesTest {
         x.port(2, 66);
         due("16: the last of a day", x.lineAt(2, 10, 1), 66);
         due("16: later", x.lineAt(2, 20000, 1), 66);
+    }
+
+    private static void lineAtCarrierAheadOfAllPortings() {
+        DialDesk x = lines(1);
+        x.port(0, 12);
+        x.now(1);
+        for (int i = 1; i < 500; i++) {
+            x.port(0, i % 100);
+        }
+        due("16: ahead of 499 portings", x.lineAt(0, 0, 1), 12);
+        due("16: behind them", x.lineAt(0, 1, 1), 99);
+        due("16: no more of them", x.port(0, 5), FULL);
     }
 }

@@ -106,9 +106,26 @@ public final class PlanEdgesTest {
     }
 
     private static void newObjectsShareNothing() {
-        States.busy();
-        Edge edge = new Edge(DUE, "1: beside another object", 0, DialDesk::new);
-        edge.refused("a busy one", x -> States.busy().count(0), 10);
+        DialDesk x = new DialDesk();
+        DialDesk busy = States.busy();
+        for (int what = 0; what <= 5; what++) {
+            due("1: beside a busy one, count " + what, x.count(what), 0);
+        }
+        due("1: no entry of the other's", x.entry(0, 0), NONE);
+        due("1: nor call", x.told(0, 0), NONE);
+        due("1: nor demand", x.shortage(15), NONE);
+        x.block(15, 12, 1, 3, 0);
+        x.line(0, 100);
+        x.now(3);
+        x.call(0);
+        x.demand(15, 3, 0);
+        x.mightCome(15, 18, 1, 3, 3, 0);
+        int[] counts = {10, 3, 3, 10, 6, 2};
+        for (int what = 0; what < counts.length; what++) {
+            due("1: the busy one's count " + what, busy.count(what), counts[what]);
+        }
+        due("1: the busy one's call", busy.told(0, 0), 2);
+        due("1: the busy one's demand", busy.demand(15, 0, 0), 7);
     }
 
     // ---- promise 2
@@ -575,11 +592,13 @@ public final class PlanEdgesTest {
         blocks("7: 117 entries", 117).taken("rest and PARKED", x -> x.split(3, 1, 18, 3, 5, 5), 118);
         Edge two = blocks("7: 118 entries", 118);
         two.refused("rest and PARKED", x -> x.split(3, 1, 18, 3, 5, 5), FULL);
+        two.refused("rest and PARKED for a day", x -> x.split(3, 1, 18, 3, 5, 1), FULL);
         two.taken("rest alone", x -> x.split(3, 1, 18, 3, 5, 0), 119);
         two.taken("PARKED alone", x -> x.split(3, 3, 18, 3, 5, 5), 118);
         Edge one = blocks("7: 119 entries", 119);
         one.refused("rest alone", x -> x.split(3, 1, 18, 3, 5, 0), FULL);
         one.refused("PARKED alone", x -> x.split(3, 3, 18, 3, 5, 5), FULL);
+        one.refused("PARKED alone for a day", x -> x.split(3, 3, 18, 3, 5, 1), FULL);
         one.taken("neither", x -> x.split(3, 3, 18, 3, 5, 0), 119);
         Edge none = blocks("7: 120 entries", 120);
         none.refused("neither", x -> x.split(3, 3, 18, 3, 5, 0), FULL);
@@ -700,6 +719,7 @@ public final class PlanEdgesTest {
         blocks("8: 118 entries", 118).taken("PARKED", x -> x.lengthen(3, 2, 5, 5), 118);
         Edge one = blocks("8: 119 entries", 119);
         one.refused("PARKED", x -> x.lengthen(3, 2, 5, 5), FULL);
+        one.refused("PARKED for a day", x -> x.lengthen(3, 2, 5, 1), FULL);
         one.taken("none PARKED", x -> x.lengthen(3, 2, 5, 0), 119);
         Edge none = blocks("8: 120 entries", 120);
         none.refused("none PARKED", x -> x.lengthen(3, 2, 5, 0), FULL);

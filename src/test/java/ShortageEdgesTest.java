@@ -35,6 +35,8 @@ public final class ShortageEdgesTest {
         reliefRoom();
         reliefPairsWithEntries();
         reliefPairsWithOptions();
+        reliefPairsOfOptionsApart();
+        reliefWeekByWeek();
         reliefLeastCostThenLeastNumber();
         reliefOfAllOptions();
         takeNoSuchOption();
@@ -476,6 +478,40 @@ public final class ShortageEdgesTest {
             x.mightCome(0, 13, 1, 3, 7, 900000);
             due("26: with another one", x.relief(0, 1), 5);
         }
+    }
+
+    private static void reliefPairsOfOptionsApart() {
+        DialDesk x = new DialDesk();
+        x.demand(0, 15, 0);
+        x.mightCome(0, 12, 1, 3, 0, 9);
+        x.mightCome(1, 13, 1, 3, 0, 9);
+        x.mightCome(0, 120, 1, 4, 0, 5);
+        due("26: a pair of the first and the third", x.relief(0, 1), NONE);
+        x.demand(0, 10, 0);
+        due("26: the third alone makes none", x.relief(0, 1), 4);
+    }
+
+    private static void reliefWeekByWeek() {
+        DialDesk x = new DialDesk();
+        x.block(0, 12, 1, 3, 0);
+        x.finish(0, 35);
+        x.block(0, 13, 511, 2, 35);
+        x.finish(1, 42);
+        x.block(0, 14, 31, 2, 42);
+        x.finish(2, 49);
+        x.block(0, 15, 1, 3, 49);
+        x.demand(0, 10, 0);
+        due("26: one lacks in week 5", x.shortage(0), 5);
+        x.mightCome(0, 160, 1, 4, 36, 1);
+        due("26: too late for week 5", x.relief(0, 1), NONE);
+        x.mightCome(0, 17, 1, 2, 35, 2);
+        x.mightCome(0, 18, 15, 2, 35, 3);
+        x.mightCome(0, 19, 31, 2, 35, 4);
+        due("26: one for week 5", x.relief(0, 1), 2);
+        due("26: and later ones for week 6", x.relief(0, 2), 3);
+        due("26: and for good", x.relief(0, 2000), 3);
+        x.now(37);
+        due("26: those days are ahead of the clock", x.relief(0, 1), NONE);
     }
 
     private static void reliefLeastCostThenLeastNumber() {
