@@ -234,9 +234,8 @@ public final class CallsEdgesTest {
         for (int k : calls) {
             for (int what = 0; what <= 10; what++) {
                 int w = what;
-                edge.taken("call " + k + ", " + w, x -> x.told(k, w), NONE);
+                edge.refused("call " + k + ", " + w, x -> x.told(k, w), NONE);
             }
-            edge.refused("call " + k, x -> x.told(k, 0), NONE);
         }
         int[] whats = {MIN, -1, 11, MAX};
         for (int what : whats) {
@@ -316,8 +315,8 @@ public final class CallsEdgesTest {
             long first = least;
             edge.taken("the least of " + figures, x -> x.leads(first, 10), NONE);
             edge.taken("the most of " + figures, x -> x.leads(2 * first - 1, 10), NONE);
-            edge.taken("below the least of " + figures, x -> x.leads(first - 1, 10), RANGE);
-            edge.taken("above the most of " + figures, x -> x.leads(2 * first, 10), RANGE);
+            edge.refused("below the least of " + figures, x -> x.leads(first - 1, 10), RANGE);
+            edge.refused("above the most of " + figures, x -> x.leads(2 * first, 10), RANGE);
         }
         long[] refused = {Long.MIN_VALUE, MIN, -12345, -1, 0, 1, 2, 9, 20, 99, 22345, 2000000000000000L,
             9999999999999999L, 10000000000000000L, 19999999999999999L, 1000000000000000000L, 1999999999999999999L,

@@ -36,6 +36,7 @@ public final class ShortageEdgesTest {
         reliefPairsWithEntries();
         reliefPairsWithOptions();
         reliefPairsOfOptionsApart();
+        reliefWithAsManyTurnsAsThereCanBe();
         reliefWeekByWeek();
         reliefLeastCostThenLeastNumber();
         reliefOfAllOptions();
@@ -489,6 +490,26 @@ public final class ShortageEdgesTest {
         due("26: a pair of the first and the third", x.relief(0, 1), NONE);
         x.demand(0, 10, 0);
         due("26: the third alone makes none", x.relief(0, 1), 4);
+    }
+
+    /** Blocks of one number, each there for a week and then none for a week; two more entries have room. */
+    private static void reliefWithAsManyTurnsAsThereCanBe() {
+        DialDesk x = new DialDesk();
+        for (int e = 0; e < 118; e++) {
+            x.block(0, 1000 + e, 1, 4, 14 * e + 7);
+            x.finish(e, 14 * e + 14);
+        }
+        x.demand(0, 2, 1);
+        x.mightCome(0, 18, 3, 4, 0, 5);
+        x.mightCome(0, 19, 15, 3, 0, 5);
+        due("26: many turns, without", x.shortage(0), 0);
+        due("26: many turns, 200 numbers, to week 199", x.relief(0, 200), 1);
+        due("26: many turns, 240 numbers", x.relief(0, 201), 3);
+        due("26: many turns, 240 numbers, to week 238", x.relief(0, 239), 3);
+        due("26: many turns, a week too many", x.relief(0, 240), NONE);
+        x.take(0);
+        x.take(0);
+        due("26: many turns, with both", x.shortage(0), 239);
     }
 
     private static void reliefWeekByWeek() {
