@@ -10,7 +10,7 @@ public final class ModelTest {
     private final Random random;
     private final int seed;
     private final DialDesk x = new DialDesk();
-    private final NaiveDesk y = new NaiveDesk();
+    private final NaiveDesk y = new NaiveDesk(true);
     /** Out of 100 calls: those that change the plan, lines, dial, change the supply; the rest asks. */
     private final int[] shares;
     private final int mostEntries;

@@ -1,17 +1,15 @@
 import java.util.ArrayList;
-import java.util.BitSet;
 import java.util.List;
 
 /**
- * The document's words done the slow way, for small plans: every NUMBER is listed (as bits, by the number
- * with a 1 ahead), lines are walked day by day, and shortages are looked for week by week. Only for calls
- * whose numbers have five figures at most.
+ * The document's words done the slow way: lines are walked day by day, and shortages are looked for week by week.
+ * For calls whose numbers have five figures at most, every NUMBER can be listed; else they are told place by place.
  */
 final class NaiveDesk {
     static final int NONE = -1;
     static final int RANGE = -2;
     static final int FULL = -3;
-    private static final int LIMIT = 200000;
+    private static final int MOST_FIGURES = 15;
 
     static final class Row {
         int kind;
@@ -24,35 +22,10 @@ final class NaiveDesk {
         int end = NONE;
         int from = NONE;
         int changeDay = NONE;
-        final BitSet numbers = new BitSet(LIMIT);
-        final BitSet beginnings = new BitSet(LIMIT);
+        Numbers numbers;
 
         boolean inForce(int day) {
             return first <= day && (end == NONE || day < end);
-        }
-
-        void list() {
-            extend(prefix);
-            for (int n = numbers.nextSetBit(0); n >= 0; n = numbers.nextSetBit(n + 1)) {
-                for (int b = n; b >= 1; b /= 10) {
-                    beginnings.set(b);
-                }
-            }
-        }
-
-        private void extend(String figures) {
-            if (figures.length() > prefix.length() && set != 0
-                && (set >> (figures.charAt(prefix.length()) - '0') & 1) == 0) {
-                return;
-            }
-            if (figures.length() >= least) {
-                numbers.set(Integer.parseInt("1" + figures));
-            }
-            if (figures.length() < most) {
-                for (char c = '0'; c <= '9'; c++) {
-                    extend(figures + c);
-                }
-            }
         }
     }
 
@@ -83,6 +56,12 @@ final class NaiveDesk {
     final long[] first = new long[16];
     final long[] more = new long[16];
     int clock = 0;
+    private final boolean listed;
+    private int portings = 0;
+
+    NaiveDesk(boolean listed) {
+        this.listed = listed;
+    }
 
     private static String figures(long told) {
         String text = Long.toString(told);
@@ -97,7 +76,7 @@ final class NaiveDesk {
         return e >= 0 && e < rows.size() ? rows.get(e) : null;
     }
 
-    private static Row newRow(int kind, int belongs, String prefix, int set, int least, int most) {
+    private Row newRow(int kind, int belongs, String prefix, int set, int least, int most) {
         Row r = new Row();
         r.kind = kind;
         r.belongs = belongs;
@@ -105,7 +84,7 @@ final class NaiveDesk {
         r.set = set;
         r.least = least;
         r.most = most;
-        r.list();
+        r.numbers = listed ? new Numbers.Listed(prefix, set, least, most) : new Numbers.Spelled(prefix, set, least, most);
         return r;
     }
 
@@ -246,7 +225,7 @@ final class NaiveDesk {
     }
 
     private static boolean makePair(Row a, Row b) {
-        return a.numbers.intersects(b.beginnings) || b.numbers.intersects(a.beginnings);
+        return a.numbers.pairsWith(b.numbers);
     }
 
     private List<int[]> pairList(int day) {
@@ -311,7 +290,7 @@ final class NaiveDesk {
         Row r = row(e);
         String f = figures(told);
         if (r == null || r.kind != 0 || !r.inForce(clock) || bad(f, 1, 11)
-            || f.length() != r.least - r.prefix.length() || !r.numbers.get(Integer.parseInt("1" + r.prefix + f))) {
+            || f.length() != r.least - r.prefix.length() || !r.numbers.has(r.prefix + f)) {
             return RANGE;
         }
         if (wireOn(e, f, clock) != NONE) {
@@ -356,6 +335,10 @@ final class NaiveDesk {
         if (w == null || w.end != NONE || carrier < 0 || carrier > 99) {
             return RANGE;
         }
+        if (portings == 500) {
+            return FULL;
+        }
+        portings++;
         int before = carrier(w, clock);
         w.portings.add(new int[] {clock, carrier});
         return before;
@@ -386,20 +369,15 @@ final class NaiveDesk {
     }
 
     private boolean isNumber(String f, int day) {
-        return f.length() <= 5 && leadRow(f, day) != NONE;
+        return leadRow(f, day) != NONE;
     }
 
     private int longest(String f, int day, boolean shortest) {
         int found = NONE;
         for (Row r : rows) {
-            if (r.inForce(day)) {
-                int told = Integer.parseInt("1" + f);
-                for (int n = f.length() + 1, low = told * 10, size = 10; n <= 5; n++, low *= 10, size *= 10) {
-                    int at = r.numbers.nextSetBit(low);
-                    if (at >= 0 && at < low + size) {
-                        int behind = n - f.length();
-                        found = found == NONE ? behind : shortest ? Math.min(found, behind) : Math.max(found, behind);
-                    }
+            for (int behind = 1; behind <= MOST_FIGURES && r.inForce(day); behind++) {
+                if (r.numbers.hasLonger(f, behind)) {
+                    found = found == NONE ? behind : shortest ? Math.min(found, behind) : Math.max(found, behind);
                 }
             }
         }
@@ -446,7 +424,7 @@ final class NaiveDesk {
         for (int kind : kinds) {
             for (int e = 0; e < rows.size(); e++) {
                 Row r = rows.get(e);
-                if (r.kind == kind && r.inForce(day) && r.numbers.get(Integer.parseInt("1" + f))) {
+                if (r.kind == kind && r.inForce(day) && r.numbers.has(f)) {
                     return e;
                 }
             }
@@ -455,7 +433,7 @@ final class NaiveDesk {
     }
 
     private int leadWire(String f, int day) {
-        int e = f.length() > 5 ? NONE : leadRow(f, day);
+        int e = leadRow(f, day);
         if (e == NONE || rows.get(e).kind == 1 || rows.get(e).kind == 2) {
             return NONE;
         }
@@ -470,7 +448,7 @@ final class NaiveDesk {
         if (c == null) {
             return NONE;
         }
-        int e = c.figures.isEmpty() || c.figures.length() > 5 ? NONE : leadRow(c.figures, c.day);
+        int e = c.figures.isEmpty() ? NONE : leadRow(c.figures, c.day);
         int l = c.figures.isEmpty() ? NONE : leadWire(c.figures, c.day);
         switch (what) {
             case 0: return c.figures.length();
@@ -491,7 +469,7 @@ final class NaiveDesk {
     private int bitsBehind(Dialled c) {
         int bits = 0;
         for (int f = 0; f <= 9 && !c.over; f++) {
-            if (c.figures.length() < 5 && answerTo(c.figures + f, c.day) != 3) {
+            if (answerTo(c.figures + f, c.day) != 3) {
                 bits |= 1 << f;
             }
         }
@@ -521,23 +499,34 @@ final class NaiveDesk {
     }
 
     private long roomWith(int area, int day, List<Row> others) {
+        return roomOf(blocksOf(area, others), day);
+    }
+
+    private List<Row> blocksOf(int area, List<Row> others) {
+        List<Row> found = new ArrayList<>(rows);
+        found.addAll(others);
+        found.removeIf(r -> r.kind != 0 || r.belongs != area);
+        return found;
+    }
+
+    private static long roomOf(List<Row> blocks, int day) {
         long found = 0;
-        List<Row> all = new ArrayList<>(rows);
-        all.addAll(others);
-        for (Row r : all) {
-            if (r.kind == 0 && r.belongs == area && r.inForce(day)) {
-                found += r.numbers.cardinality();
-            }
+        for (Row r : blocks) {
+            found += r.inForce(day) ? r.numbers.size() : 0;
         }
         return found;
     }
 
-    /** Weeks behind the last day on which something changes only grow in demand, but are looked at all the same. */
     private int shortWeek(int area, List<Row> others) {
+        List<Row> blocks = blocksOf(area, others);
+        int lastTurn = clock;
+        for (Row r : blocks) {
+            lastTurn = Math.max(lastTurn, Math.max(r.first, r.end));
+        }
         long there = 0;
         for (int week = clock / 7; week <= 2000; week++) {
-            if (week == clock / 7 || week <= 40) {
-                there = roomWith(area, 7 * week, others);
+            if (7 * week <= lastTurn + 7) {
+                there = roomOf(blocks, 7 * week);
             }
             if (first[area] + more[area] * week > there) {
                 return week;

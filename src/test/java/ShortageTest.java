@@ -16,6 +16,7 @@ public final class ShortageTest {
         reliefWithRoom();
         reliefsThatCannotBe();
         reliefUpToTheLastWeek();
+        reliefOfTheLastWeek();
         takes();
         counts();
         DUE.end();
@@ -292,6 +293,39 @@ public final class ShortageTest {
         x.mightCome(0, 150, 511, 5, 0, 4);
         due("to week 2000", x.relief(0, 1899), 5);
         due("behind week 2000 none is asked for", x.relief(0, 1900), 5);
+    }
+
+    private static void reliefOfTheLastWeek() {
+        DialDesk x = new DialDesk();
+        x.block(0, 12, 1, 4, 0);
+        x.demand(0, 0, 1);
+        x.mightCome(0, 13, 1023, 4, 0, 5);
+        x.mightCome(0, 140, 255, 5, 0, 5);
+        x.mightCome(0, 141, 511, 4, 0, 5);
+        x.mightCome(0, 142, 511, 3, 0, 5);
+        due("1999 are too few in week 2000 alone", x.relief(0, 1899), 15);
+        due("so the shortage is not put off by more", x.relief(0, 1900), DialDesk.NONE);
+        DialDesk y = new DialDesk();
+        y.block(0, 12, 1, 3, 0);
+        y.finish(0, 14000);
+        y.demand(0, 1, 0);
+        due("shortage", y.shortage(0), 2000);
+        y.mightCome(0, 13, 1, 3, 14001, 5);
+        due("behind its first day", y.relief(0, 1), DialDesk.NONE);
+        y.mightCome(0, 14, 1, 3, 14000, 5);
+        due("on its first day", y.relief(0, 1), 2);
+        DialDesk z = new DialDesk();
+        z.block(0, 12, 1, 3, 0);
+        z.finish(0, 14005);
+        z.now(35);
+        z.demand(0, 15, 0);
+        z.mightCome(0, 13, 1, 3, 35, 5);
+        due("shortage by the clock", z.shortage(0), 5);
+        due("week 2001 may be short", z.relief(0, 2000), 1);
+        z.finish(0, 14000);
+        due("week 2000 may not", z.relief(0, 2000), DialDesk.NONE);
+        due("by 1995 weeks, to week 2000", z.relief(0, 1995), 1);
+        due("by 1996, behind it", z.relief(0, 1996), DialDesk.NONE);
     }
 
     private static void takes() {
